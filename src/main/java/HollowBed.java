@@ -1324,7 +1324,14 @@ public final class HollowBed {
         void findBest(Town town, Rule rule, int n) {
             int which = NONE;
             int least = FARTHEST;
+            boolean uncardedTried = false;
             for (int card = 1; card <= CARD_MOST; card++) {
+                // All CARDS that do not come due in these NIGHTS end alike: one of them is tried.
+                boolean comesDue = card - 1 - town.night % card < n;
+                if (!comesDue && uncardedTried) {
+                    continue;
+                }
+                uncardedTried = uncardedTried || !comesDue;
                 then.copyFrom(town);
                 then.card = card;
                 goOn(rule, n);
