@@ -113,6 +113,12 @@ public final class FaultTest {
         rule("lie", 3, 0);
         rule("lies 1", 0, 0);
         rule("li 1", 0, 0);
+        rule("liea 1", 0, 0);
+        rule("liez 1", 0, 0);
+        rule("lie`1", 3, 0);
+        rule("lie{1", 3, 0);
+        rule("lie/1", 3, 0);
+        rule("lie 1:", 5, 0);
         rule("liebed", 0, 0);
         rule("lie if", 4, 0);
         rule("lie not", 4, 0);

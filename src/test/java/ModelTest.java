@@ -201,6 +201,12 @@ public final class ModelTest {
 
     private String ruleText() {
         StringBuilder text = new StringBuilder();
+        if (random.nextInt(8) == 0) {
+            for (int i = upTo(8, 11); i > 0; i--) {
+                text.append("lie ").append(value()).append(" if ").append(value()).append("<").append(value()).append(";");
+            }
+            return text.append("lie ").append(value()).toString();
+        }
         for (int i = random.nextInt(3); i >= 0; i--) {
             text.append(blanks()).append("lie ").append(sum());
             if (i > 0 || random.nextInt(3) == 0) text.append(" if ").append(test(2));

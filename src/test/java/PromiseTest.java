@@ -190,6 +190,10 @@ public final class PromiseTest {
         due("9: the first CLAUSE that holds", first.lodger(0, 3), 1);
         HollowBed never = Calls.bedsOf("city 9 6;bed 1 1 1;lodger 50 1 0", "lie 5 if bed=1");
         due("9: no CLAUSE holds", never.night(), 0);
+        String eleven = "lie 9 if 1=2;".repeat(11);
+        due("9: the twelfth CLAUSE", Calls.bedsOf(TOWN, eleven + "lie 1").night(), 3);
+        due("9: the twelfth CLAUSE holds", Calls.bedsOf(TOWN, eleven + "lie 1 if bed=1").night(), 2);
+        due("9: the twelfth CLAUSE does not", Calls.bedsOf(TOWN, eleven + "lie 1 if bed=2").night(), 0);
         HollowBed room = Calls.bedsOf("city 9 2;bed 1 1 1;bed 2 2 2;lodger 50 1 0;lodger 50 1 0;lodger 50 1 0;lodger 5 1 0",
             "lie room*10+bed if room=1 or bed=0;lie 5");
         due("9: room at their turn", room.night(), 4);
@@ -647,5 +651,13 @@ public final class PromiseTest {
         dues("33: as the text told it", of(x.ruled(0), x.ruled(1)), 1, 0);
         x.night();
         dues("32: made anew", of(x.image(2), x.undo(), x.back(2), x.count(11)), 3, 2, 3, 3);
+        HollowBed ring = town();
+        nights(ring, 3);
+        ring.image(0);
+        nights(ring, 25);
+        ring.back(0);
+        dues("33: all that could be UNDONE", of(ring.undo(), ring.count(6), ring.undo(), ring.count(6), ring.undo(), ring.count(6)),
+            2, 2, 1, 1, 0, 0);
+        dues("33: as at first", of(ring.lodger(0, 0), ring.bed(1, 1), ring.lodger(2, 3), ring.count(9)), 30, 40, -1, 0);
     }
 }
