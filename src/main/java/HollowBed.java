@@ -342,8 +342,8 @@ public final class HollowBed {
         if (!known || what < 0 || what > 1 || !now.town.stands()) {
             return NONE;
         }
-        Town then = foresight.afterMays(now, ruleInForce(), m, n, p);
-        return what == 0 ? then.farOfAll() : then.hollowOfAll();
+        foresight.findMays(now, ruleInForce(), m, n, p);
+        return foresight.told(what);
     }
 
     public int count(int what) {
@@ -1401,17 +1401,27 @@ public final class HollowBed {
             return true;
         }
 
-        /** Draws on a copy of x, which stays as it was. */
-        Town afterMays(Ledger ledger, Rule rule, int m, int n, int p) {
+        /** Draws on a copy of x that goes on from one time to the next; x itself stays. */
+        void findMays(Ledger ledger, Rule rule, int m, int n, int p) {
+            int far = 0;
+            int hollows = 0;
             x = ledger.x;
-            then.copyFrom(ledger.town);
             for (int i = 0; i < m; i++) {
+                then.copyFrom(ledger.town);
+                goOnTurning(rule, n, p);
+                far += then.farOfAll();
+                hollows += then.hollowOfAll();
+            }
+            tell(far, hollows, NONE);
+        }
+
+        private void goOnTurning(Rule rule, int n, int p) {
+            for (int i = 0; i < n; i++) {
                 if (draw() % 100 < p && then.beds > 0) {
                     then.swapSides(draw() % then.beds);
                 }
-                goOn(rule, n);
+                nights.pass(then, rule, null);
             }
-            return then;
         }
 
         private int draw() {

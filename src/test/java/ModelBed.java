@@ -740,12 +740,16 @@ public final class ModelBed {
     public int mays(int m, int n, int p, int what) {
         if (city == null || out(m, 1, 10) || out(n, 1, 60) || out(p, 0, 100) || out(what, 0, 1)) return -1;
         java.math.BigInteger[] seed = {java.math.BigInteger.valueOf(x)};
-        City c = city;
+        int sum = 0;
         for (int i = 0; i < m; i++) {
-            if (draw(seed) % 100 < p && !c.beds.isEmpty()) c = c.turned(draw(seed) % c.beds.size());
-            c = nights(c, n);
+            City c = city;
+            for (int j = 0; j < n; j++) {
+                if (draw(seed) % 100 < p && !c.beds.isEmpty()) c = c.turned(draw(seed) % c.beds.size());
+                c = nights(c, 1);
+            }
+            sum += what == 0 ? c.far() : c.hollows();
         }
-        return what == 0 ? c.far() : c.hollows();
+        return sum;
     }
 
     private static int draw(java.math.BigInteger[] seed) {

@@ -575,35 +575,38 @@ public final class PromiseTest {
         HollowBed x = town();
         HollowBed y = town();
         y.turn(0);
-        nights(y, 3);
-        nights(y, 3);
+        nights(y, 2);
         y.turn(0);
-        nights(y, 3);
-        dues("30: p 50, turned ahead of the first and the third", of(x.mays(3, 3, 50, 0), x.mays(3, 3, 50, 1)), y.count(7), y.count(8));
+        nights(y, 1);
+        dues("30: p 50, turned ahead of the first NIGHT and the third", of(x.mays(1, 3, 50, 0), x.mays(1, 3, 50, 1)), y.count(7), y.count(8));
         HollowBed z = town();
         z.turn(0);
-        nights(z, 2);
+        nights(z, 1);
         z.turn(1);
-        nights(z, 2);
-        dues("30: p 100", of(x.mays(2, 2, 100, 0), x.mays(2, 2, 100, 1)), z.count(7), z.count(8));
-        dues("30: p 0", of(x.mays(10, 10, 0, 0), x.mays(1, 60, 0, 0)), x.ahead(0, 100, 3), x.ahead(0, 60, 3));
+        nights(z, 1);
+        dues("30: p 100, turned ahead of each NIGHT", of(x.mays(1, 2, 100, 0), x.mays(1, 2, 100, 1)), z.count(7), z.count(8));
+        dues("30: times all together, each from now on, DRAWS going on", of(x.mays(3, 1, 50, 1), x.mays(2, 1, 100, 1)),
+            2 * turnedThen(0, 8) + x.ahead(0, 1, 2) + x.ahead(1, 1, 2), turnedThen(0, 8) + turnedThen(1, 8));
+        dues("30: FAR likewise", of(x.mays(3, 1, 50, 0), x.mays(2, 1, 100, 0)),
+            2 * turnedThen(0, 7) + x.ahead(0, 1, 3), turnedThen(0, 7) + turnedThen(1, 7));
+        dues("30: p 0", of(x.mays(10, 10, 0, 0), x.mays(1, 60, 0, 0)), 10 * x.ahead(0, 10, 3), x.ahead(0, 60, 3));
         dues("30: nothing changes", of(x.count(12), x.count(6), x.count(11)), 0, 0, 0);
         x.seed(12345);
         // The DRAW 21468 mod 100 is 68.
-        dues("30: x from elsewhere", of(x.mays(1, 1, 68, 1), x.mays(1, 1, 69, 1)), x.ahead(0, 1, 2) + x.ahead(1, 1, 2), turnedHollows(0));
+        dues("30: x from elsewhere", of(x.mays(1, 1, 68, 1), x.mays(1, 1, 69, 1)), x.ahead(0, 1, 2) + x.ahead(1, 1, 2), turnedThen(0, 8));
         HollowBed bare = Calls.bedsOf("city 9 1;lodger 5 1 9");
-        dues("30: no BEDS", of(bare.mays(10, 60, 100, 0), bare.mays(10, 60, 100, 1)), 4, 0);
+        dues("30: no BEDS", of(bare.mays(10, 60, 100, 0), bare.mays(10, 60, 100, 1)), 40, 0);
         dues("30: without", of(x.mays(0, 1, 0, 0), x.mays(11, 1, 0, 0), x.mays(1, 0, 0, 0), x.mays(1, 61, 0, 0), x.mays(1, 1, -1, 0),
             x.mays(1, 1, 101, 0), x.mays(1, 1, 0, 2), x.mays(1, 1, 0, -1), new HollowBed().mays(1, 1, 0, 0)),
             -1, -1, -1, -1, -1, -1, -1, -1, -1);
     }
 
-    /** HOLLOWS of all BEDS if BED 9988 mod 2 is turned, then a NIGHT. */
-    private static int turnedHollows(int bed) {
+    /** FAR (what 7) or HOLLOWS (8) of all, if a BED is turned and then a NIGHT comes. */
+    private static int turnedThen(int bed, int what) {
         HollowBed x = town();
         x.turn(bed);
         x.night();
-        return x.count(8);
+        return x.count(what);
     }
 
     private static void count() {
