@@ -1,4 +1,6 @@
 import java.nio.charset.StandardCharsets;
+import java.util.ArrayList;
+import java.util.List;
 
 /** What the tests share: texts put on the TAPE, and answers compared with those that are due. */
 final class Calls {
@@ -48,12 +50,54 @@ final class Calls {
         return x;
     }
 
+    static void nights(HollowBed x, int n) {
+        for (int i = 0; i < n; i++) {
+            x.night();
+        }
+    }
+
+    static int[] of(int... answers) {
+        return answers;
+    }
+
+    /** All that can be seen of an object without changing it. */
+    static int[] view(HollowBed x) {
+        List<Integer> seen = new ArrayList<>();
+        for (int what = 0; what <= 13; what++) {
+            seen.add(x.count(what));
+        }
+        for (int bed = 0; bed < x.count(2); bed++) {
+            for (int what = 0; what <= 3; what++) {
+                seen.add(x.bed(bed, what));
+            }
+        }
+        for (int lodger = 0; lodger < x.count(3); lodger++) {
+            for (int what = 0; what <= 5; what++) {
+                seen.add(x.lodger(lodger, what));
+            }
+        }
+        for (int what = 0; what <= 1; what++) {
+            seen.add(x.ruled(what));
+            seen.add(x.look(1, what));
+            seen.add(x.mays(2, 3, 60, what));
+        }
+        return seen.stream().mapToInt(i -> i).toArray();
+    }
+
     void due(String what, long got, long want) {
         if (got == want) {
             passed++;
         } else {
             failed++;
             System.out.println(what + " answered " + got + ", due is " + want);
+        }
+    }
+
+    /** Many answers in a row. */
+    void dues(String what, int[] got, int... want) {
+        due(what + ", how many", got.length, want.length);
+        for (int i = 0; i < Math.min(got.length, want.length); i++) {
+            due(what + ", number " + i, got[i], want[i]);
         }
     }
 

@@ -43,12 +43,8 @@ public final class PromiseTest {
         calls.due(what, got, want);
     }
 
-    /** Many answers in a row. */
     private static void dues(String what, int[] got, int... want) {
-        due(what + ", how many", got.length, want.length);
-        for (int i = 0; i < Math.min(got.length, want.length); i++) {
-            due(what + ", number " + i, got[i], want[i]);
-        }
+        calls.dues(what, got, want);
     }
 
     private static int[] of(int... answers) {
@@ -60,7 +56,7 @@ public final class PromiseTest {
     }
 
     private static void nights(HollowBed x, int n) {
-        for (int i = 0; i < n; i++) x.night();
+        Calls.nights(x, n);
     }
 
     private static void newObject() {
