@@ -305,6 +305,12 @@ public final class CallEdgeTest {
         dues("18: without a CITY", of(new HollowBed().tonight(-1), new HollowBed().tonight(0), new HollowBed().tonight(6)), -3, -3, -3);
         HollowBed first = Calls.bedsOf("city 60 1;bed 80 0 9;bed 90 0 9;lodger 0 1 85;lodger 0 1 85");
         dues("18: of LODGER 0 first", of(first.tonight(-1), first.tonight(0), first.tonight(1)), 10, 0, 1);
+        HollowBed five = Calls.bedsOf("city 60 1;bed 0 0 9;bed 20 0 9;bed 40 0 9;bed 60 0 9;bed 80 0 9;"
+            + "lodger 99 1 80;lodger 99 1 60;lodger 99 1 40;lodger 99 1 20;lodger 99 1 0;lodger 99 1 99");
+        for (int what = -1; what <= 5; what++) all[what + 1] = five.tonight(what);
+        dues("18: five BEDS, six LODGERS", all, 0, 4, 3, 2, 1, 0, -1);
+        HollowBed near = Calls.bedsOf("city 60 1;bed 49 0 9;lodger 50 1 49");
+        dues("18: less by 1", of(near.tonight(-1), near.tonight(0)), 0, 0);
         HollowBed ruled = Calls.bedsOf("city 60 1;bed 80 0 9;lodger 0 1 80", "lie 0");
         dues("18: whatever the RULE says", of(ruled.tonight(-1), ruled.tonight(0)), 0, 0);
         HollowBed may = Calls.bedsOf("city 1 1;bed 80 0 9;lodger 0 1 80");
@@ -348,6 +354,9 @@ public final class CallEdgeTest {
         dues("20: HOLLOW 99, behind (2), not (3)", of(top.lain(0, 99, 0), top.lain(0, 99, 1), top.lain(0, 74, 0)), 1, 1, 0);
         HollowBed bare = Calls.bedsOf("city 1 1;bed 5 0 1");
         dues("20: no LODGERS, nobody alone", of(bare.lain(0, 5, 0), bare.lain(0, 5, 1), bare.lain(0, 5, 2), bare.lain(0, 6, 1)), 1, 0, 0, -2);
+        HollowBed zero = Calls.bedsOf("city 60 2;bed 9 0 1;lodger 60 1 1;lodger 61 1 1;lodger 0 1 1");
+        // 60 is of LODGER 0 alone, and of 0 and 1.
+        dues("20: LODGER 0 is in all", of(zero.lain(0, 60, 0), zero.lain(0, 60, 1), zero.lain(0, 60, 2)), 2, 1, 1);
         HollowBed one = Calls.bedsOf("city 1 1;bed 5 0 9;lodger 5 1 1");
         dues("20: both nobody and one", of(one.lain(0, 5, 0), one.lain(0, 5, 1), one.lain(0, 5, 2)), 2, 0, 0);
         HollowBed ruled = Calls.bedsOf("city 9 1;bed 5 0 1;lodger 9 1 1", "lie 0");
@@ -369,6 +378,10 @@ public final class CallEdgeTest {
         due("21: without a CITY", new HollowBed().twins(0, 0), -1);
         HollowBed one = Calls.bedsOf("city 60 1;lodger 50 1 1");
         dues("21: one LODGER is no two", of(one.twins(0, 0), one.twins(0, 1)), 0, -2);
+        HollowBed zero = Calls.bedsOf("city 60 1;lodger 0 1 1");
+        due("21: one LODGER of SHAPE 0 is no two", zero.twins(0, 0), 0);
+        Calls.city(last, "city 60 1;lodger 1 1 1;lodger 3 1 1");
+        due("21: LODGERS of the CITY ahead are none", last.twins(0, 0), 0);
         HollowBed nobody = Calls.bedsOf("city 60 1");
         dues("21: no LODGERS", of(nobody.twins(100, 0), nobody.twins(100, 2)), 0, -2);
     }
@@ -417,6 +430,7 @@ public final class CallEdgeTest {
         dues("23: n 1 to 60", of(x.best(0, 0), x.best(61, 0), x.best(-1, 1), x.best(MOST, 1)), -1, -1, -1, -1);
         dues("23: what 0, 1", of(x.best(1, -1), x.best(1, 2)), -1, -1);
         due("23: without a CITY", new HollowBed().best(1, 0), -1);
+        bestFromLaterOn();
         HollowBed told = Calls.bedsOf("city 7 1;bed 0 0 9;lodger 0 1 0");
         dues("23: in place of what it is, 1 NIGHT", of(told.best(1, 0), told.best(1, 1), told.count(0)), 1, 0, 7);
         dues("23: not carded in 9 NIGHTS", of(told.best(9, 0), told.best(9, 1)), 9, 0);
@@ -424,6 +438,17 @@ public final class CallEdgeTest {
         dues("23: no LODGERS", of(nobody.best(60, 0), nobody.best(60, 1)), 1, 0);
         HollowBed bare = Calls.bedsOf("city 7 1;lodger 9 1 0");
         dues("23: no BEDS", of(bare.best(60, 0), bare.best(60, 1)), 1, 9);
+    }
+
+    private static void bestFromLaterOn() {
+        // 59 alone cards on NIGHT 58 and on none of 55 to 57; LODGER 1 lies there on it, LODGER 0 on the next one.
+        HollowBed x = Calls.bedsOf("city 60 2;bed 0 0 9;lodger 0 1 25;lodger 0 1 0", "lie 1 if lodger=0 and night=59;lie 1 if lodger=1 and night=58");
+        Calls.nights(x, 55);
+        dues("23: CARD 59 from NIGHT 55 on", of(x.best(5, 0), x.best(5, 1)), 59, 0);
+        // Of NIGHTS 59 and 60 the first is carded by all that part 60: 7 is the least that does not.
+        HollowBed y = Calls.bedsOf("city 60 2;bed 0 0 9;lodger 0 1 0", "lie 1");
+        Calls.nights(y, 59);
+        dues("23: CARD 7 from NIGHT 59 on", of(y.best(2, 0), y.best(2, 1)), 7, 0);
     }
 
     private static void rests() {
@@ -445,6 +470,21 @@ public final class CallEdgeTest {
         HollowBed order = Calls.bedsOf("city 60 2;bed 50 0 9;bed 50 0 9;bed 50 0 9;lodger 50 1 0;lodger 90 1 50", "lie 0");
         dues("24: by the first one, then the second one", of(order.rests(0, 1, 1, 0), order.rests(0, 1, 1, 1), order.rests(0, 1, 1, 2)), 9, 0, 0);
         matching();
+        restsInARow();
+    }
+
+    /** Nobody is held to a BED by a question that was asked ahead. */
+    private static void restsInARow() {
+        String town = "city 60 1;bed 10 0 9;bed 90 0 9;lodger 50 1 10;lodger 50 1 10;lodger 50 1 10";
+        HollowBed x = Calls.bedsOf(town, "lie 1 if lodger=0 and bed=1");
+        HollowBed y = Calls.bedsOf(town, "lie 1 if lodger=0 and bed=1");
+        x.rests(0, 1, 1, 0);
+        x.row(0, 1, 0);
+        // LODGER 0 lies on BED 1 by the RULE: LODGERS 1 and 2 have room on BED 0 alone.
+        dues("24: asked behind another two", of(x.rests(1, 2, 1, 0), x.rests(1, 2, 1, 1), x.rests(1, 2, 1, 2)), 2, 0, 0);
+        dues("24: asked at once", of(y.rests(1, 2, 1, 0), y.rests(1, 2, 1, 1), y.rests(1, 2, 1, 2)), 2, 0, 0);
+        y.rests(0, 2, 1, 0);
+        dues("17: asked behind RESTS", of(y.row(1, 1, 0), y.row(1, 1, 1)), 0, 0);
     }
 
     /** LODGER 0 wants to lie where LODGER 1 lies, who wants to be alone: no two BEDS rest. */
@@ -549,6 +589,13 @@ public final class CallEdgeTest {
         HollowBed parts = Calls.bedsOf("city 60 2;bed 1 1 9;bed 2 2 9;bed 3 3 9;lodger 50 1 9;lodger 50 1 9", "lie 1");
         Calls.rule(parts, "lie 1 if lodger=0 or bed=1");
         Calls.rule(parts, "lie 1 if lodger=0 and bed=1 or bed=2");
+        HollowBed five = Calls.bedsOf("city 60 2" + ";bed 1 1 9".repeat(5) + ";lodger 50 1 9", "lie 1+bed");
+        Calls.rule(five, "lie 2+bed");
+        Calls.rule(five, "lie 0");
+        dues("28: two on BED 4, one on BED 0, one on none", of(five.look(0, 0), five.look(0, 1)), 0, 2);
+        Calls.rule(five, "lie 0");
+        Calls.rule(five, "lie 0");
+        dues("28: three on none", of(five.look(0, 0), five.look(0, 1)), 0, 3);
         // LODGER 0 lies on 0, 0, 0, 1; LODGER 1 on 0, 0, 1, 2.
         dues("28: the most alike are fewest", of(parts.look(0, 0), parts.look(0, 1)), 1, 2);
     }
@@ -612,6 +659,25 @@ public final class CallEdgeTest {
         due("32: no ACT", x.count(11), 0);
     }
 
+    /** By none the LODGER lies on BED 0, by RULE 0 on BED 1 but on none on NIGHT 7. */
+    private static void notesOfImages() {
+        HollowBed x = Calls.bedsOf("city 60 1;bed 10 20 3;bed 10 20 3;lodger 30 4 50;lodger 30 4 50", "lie 1 if lodger=0 and bed=1 and [night<7 or night>7]");
+        x.note(7, 0, -1);
+        x.image(2);
+        dues("33: NOTES as they were", of(x.ruled(0), x.ruled(1)), 1, 0);
+        x.note(-1, 0, 0);
+        x.note(7, 0, 0);
+        x.image(3);
+        dues("33: NOTES that came then", of(x.ruled(0), x.ruled(1)), 1, -1);
+        dues("33: NOTES gone back to, where", of(x.back(2), x.count(10), x.ruled(0), x.ruled(1)), 0, 1, 1, 0);
+        x.note(-1, 0, 0);
+        x.note(6, 0, -1);
+        dues("33: NOTES gone back to, which NIGHT", of(x.ruled(0), x.back(2), x.ruled(0), x.ruled(1)), 0, 0, 1, 0);
+        x.note(-1, 0, 0);
+        x.note(7, 1, -1);
+        dues("33: NOTES gone back to, who", of(x.back(3), x.ruled(0), x.ruled(1)), 0, 1, -1);
+    }
+
     private static void back() {
         HollowBed x = Calls.bedsOf("city 60 1;bed 10 20 3;lodger 30 4 50", "lie 1");
         dues("33: never made", of(x.back(0), x.back(1), x.back(2), x.back(3)), -1, -1, -1, -1);
@@ -637,6 +703,7 @@ public final class CallEdgeTest {
         x.back(0);
         dues("33: these stay: RULES and the TAPE", of(x.count(4), x.count(5), x.count(13), x.city()), 2, 0, 20, 0);
         due("33: IMAGES stay behind a CITY", x.back(0), 0);
+        notesOfImages();
         HollowBed full = Calls.bedsOf("city 60 1;bed 10 20 3");
         for (int i = 0; i < 21; i++) full.turn(0);
         full.image(1);

@@ -110,6 +110,10 @@ public final class NightEdgeTest {
         last.lead(2, 1);
         last.night();
         dues("last: on the NIGHT ahead, not on this one", where(last, 3), 1, 0, 1);
+        HollowBed ones = Calls.bedsOf(three, "lie 1 if lodger=0 and last=1 and bed=1 or lodger=1 and last=0 and bed=1");
+        ones.lead(0, 1);
+        ones.night();
+        dues("last: 1 if they lay there, else 0", where(ones, 3), 1, 1, -1);
         HollowBed never = Calls.bedsOf(three, "lie last");
         calls.due("last at NIGHT 0", never.night(), 0);
         HollowBed near = Calls.bedsOf("city 9 2;bed 10 0 1;bed 90 0 1;lodger 10 1 0;lodger 51 1 0;lodger 50 1 0;lodger 49 1 0", "lie 100-near");

@@ -10,6 +10,7 @@ public final class TextEdgeTest {
 
     public static void main(String[] args) {
         bytesOfTexts();
+        behindFaults();
         clausesOfCities();
         numbersOfCities();
         bedsAndLodgersTold();
@@ -60,11 +61,45 @@ public final class TextEdgeTest {
         city(why + ", not one byte ahead", asLongAs(399, "city 1 1") + ";", fault(400, CANNOT_STAND));
         city("the last byte", asLongAs(399, "city 1 1") + "x", fault(399, CANNOT_STAND));
         rule("the last byte", asLongAs(399, "lie 1") + "x", fault(399, CANNOT_STAND));
-        // What the TAPE held behind its end is no part of the text.
+        cut("lie 1+2+3", 5, 0);
+        cut("lie beds", 7, 0);
+        cut("lie 1234567", 9, 0);
+        cut("lie 1 if 1<=1", 11, fault(11, CANNOT_STAND));
+        cut("lie 1 if 1=1", 11, fault(11, CANNOT_STAND));
+        cut("lie 1;lie 1", 6, fault(6, CANNOT_STAND));
+        cut("lie 1", 3, fault(3, CANNOT_STAND));
+        cut("lie 1", 2, fault(0, CANNOT_STAND));
+        cut("  lie 1", 0, fault(0, CANNOT_STAND));
+    }
+
+    /** What the TAPE held behind its end is no part of the text. */
+    private static void cut(String text, int bytes, int want) {
         HollowBed x = new HollowBed();
-        Calls.tape(x, "lie 1+2+3");
-        x.end(5);
-        calls.due("bytes behind the end", x.rule(), 0);
+        Calls.tape(x, text);
+        x.end(bytes);
+        calls.due("\"" + text + "\" cut to " + bytes, x.rule(), want);
+    }
+
+    /** A text with a FAULT leaves nothing behind that a later RULE could have. */
+    private static void behindFaults() {
+        String town = "city 9 1;bed 1 1 1;bed 2 2 2;lodger 50 1 0";
+        HollowBed x = Calls.bedsOf(town);
+        Calls.rule(x, "lie 9 if bed=0;lie 9;lie 9;lie");
+        calls.due("a RULE behind a FAULT", Calls.rule(x, "lie 1+bed"), 0);
+        x.force(0);
+        x.night();
+        calls.due("no CLAUSE ahead of its own", x.lodger(0, 3), 1);
+        HollowBed y = Calls.bedsOf(town);
+        Calls.rule(y, "lie 9 if 1=1;lie 9 if 1=1;lie 9 if 1=1;lie");
+        Calls.rule(y, "lie 5 if bed=7");
+        y.force(0);
+        calls.due("no CLAUSE behind its own", y.night(), 0);
+        HollowBed z = Calls.bedsOf(town);
+        for (int i = 0; i < 30; i++) Calls.rule(z, "lie 1" + "+1".repeat(59) + ";");
+        Calls.rule(z, "lie 1" + "+1".repeat(50) + "-51+bed");
+        z.force(0);
+        z.night();
+        calls.due("a long RULE behind many FAULTS", z.lodger(0, 3), 1);
     }
 
     private static void clausesOfCities() {
@@ -154,6 +189,10 @@ public final class TextEdgeTest {
         rule("a CLAUSE behind each ;", eleven + "lie 1;", fault(11 * 13 + 6, CANNOT_STAND));
         rule("if wants a TEST", "lie 1 if", fault(8, CANNOT_STAND));
         rule("TEST wants if", "lie 1 1=1", fault(6, CANNOT_STAND));
+        rule("a SIGN between SUMS", "lie 1 if 1 1", fault(11, CANNOT_STAND));
+        rule("a SIGN between SUMS", "lie 1 if bed room=1", fault(13, CANNOT_STAND));
+        rule("a SUM behind a SIGN", "lie 1 if 1=;", fault(11, CANNOT_STAND));
+        rule("a SUM ahead of a SIGN", "lie 1 if =1", fault(9, CANNOT_STAND));
         rule("once if", "lie 1 if 1=1 if 1=1", fault(13, CANNOT_STAND));
         calls.due("RULES may come without a CITY", Calls.rule(new HollowBed(), "lie 1"), 0);
     }
