@@ -16,6 +16,7 @@ public final class NightEdgeTest {
         turnAndStuff();
         burnAndLead();
         twentyActs();
+        eachOfTwenty();
         calls.close("NightEdgeTest");
     }
 
@@ -297,5 +298,28 @@ public final class NightEdgeTest {
         while (mixed.undo() >= 0) calls.due("NIGHTS go back, too", mixed.count(6) <= 4 ? 1 : 0, 1);
         dues("as at first", of(mixed.bed(0, 0), mixed.bed(0, 1), mixed.bed(0, 2), mixed.lodger(0, 0), mixed.lodger(0, 3),
             mixed.lodger(0, 4), mixed.count(6)), 1, 2, 5, 0, -1, 0, 0);
+    }
+
+    /** Each ACT UNDONE by itself, from every place at which a row of 20 can begin anew. */
+    private static void eachOfTwenty() {
+        for (int many = 1; many <= 45; many++) {
+            HollowBed x = Calls.bedsOf("city 7 1;bed 1 2 5;lodger 90 3 0");
+            int[][] seen = new int[many + 1][];
+            for (int i = 0; i < many; i++) {
+                seen[i] = asItIs(x);
+                x.night();
+            }
+            int can = Math.min(many, 20);
+            for (int i = 1; i <= can; i++) {
+                calls.due("of " + many + " ACTS the last " + i + ", how many more", x.undo(), can - i);
+                dues("of " + many + " ACTS the last " + i, asItIs(x), seen[many - i]);
+            }
+            calls.due("of " + many + " ACTS no more", x.undo(), -2);
+            calls.due("of " + many + " ACTS those ahead stay", x.count(6), many - can);
+        }
+    }
+
+    private static int[] asItIs(HollowBed x) {
+        return of(x.count(6), x.bed(0, 0), x.bed(0, 1), x.bed(0, 3), x.lodger(0, 0), x.lodger(0, 3), x.lodger(0, 4));
     }
 }

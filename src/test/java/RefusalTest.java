@@ -24,6 +24,7 @@ public final class RefusalTest {
         questionsWithoutCity();
         fullOfAll();
         questionsChangeNothing();
+        nothingOfTheCityAhead();
         calls.close("RefusalTest");
     }
 
@@ -280,6 +281,35 @@ public final class RefusalTest {
         }
         asked(why + "comes", x -> x.comes(1, 77));
         asked(why + "rent", x -> x.rent(9999, 1));
+    }
+
+    /** "In place of the one there was": each question as of an object that never had another CITY. */
+    private static void nothingOfTheCityAhead() {
+        String large = "city 1 2;bed 0 99 1;bed 99 0 1;bed 9 90 1;bed 80 8 1;bed 70 7 1;"
+            + "lodger 0 1 99;lodger 99 1 0;lodger 5 1 95;lodger 90 1 4;lodger 3 1 93;lodger 92 1 2";
+        for (String small : new String[] {"city 60 1;bed 10 20 3;lodger 30 4 50", "city 60 1;bed 10 20 3", "city 60 1;lodger 30 4 50",
+            "city 60 1", "city 60 2;bed 10 20 3;bed 12 20 3;lodger 30 4 50;lodger 9 1 10"}) {
+            HollowBed x = Calls.bedsOf(large, "lie 1+bed");
+            x.night();
+            answers(x);
+            Calls.city(x, small);
+            HollowBed fresh = Calls.bedsOf(small, "lie 1+bed");
+            calls.due("4: in place of the one there was: " + small, answers(x).equals(answers(fresh)) ? 1 : 0, 1);
+        }
+    }
+
+    private static List<Integer> answers(HollowBed x) {
+        List<Integer> seen = new ArrayList<>();
+        for (int what = -1; what <= 6; what++) {
+            for (int number = 0; number < 6; number++) {
+                seen.addAll(List.of(x.bed(number, what), x.lodger(number, what), x.ahead(number, 3, what), x.row(number, 2, what),
+                    x.lain(number, 10, what), x.rests(number, 5 - number, 2, what), x.rests(0, 1, 2, what)));
+            }
+            seen.addAll(List.of(x.tonight(what), x.turned(3, what), x.twins(3, what), x.settled(what), x.best(3, what)));
+            seen.addAll(List.of(x.ruled(what), x.look(3, what), x.mays(2, 3, 60, what)));
+        }
+        for (int number = 0; number < 6; number++) seen.addAll(List.of(x.comes(number, 30), x.rent(100, number)));
+        return seen;
     }
 
     private static void asked(String what, ToIntFunction<HollowBed> question) {

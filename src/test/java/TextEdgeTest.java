@@ -94,6 +94,11 @@ public final class TextEdgeTest {
         Calls.rule(y, "lie 5 if bed=7");
         y.force(0);
         calls.due("no CLAUSE behind its own", y.night(), 0);
+        HollowBed not = Calls.bedsOf(town);
+        Calls.rule(not, "lie 1 if not 1=1;");
+        Calls.rule(not, "lie 1 if 1=1");
+        not.force(0);
+        calls.due("no not behind its own FACTS", not.night(), 1);
         HollowBed z = Calls.bedsOf(town);
         for (int i = 0; i < 30; i++) Calls.rule(z, "lie 1" + "+1".repeat(59) + ";");
         Calls.rule(z, "lie 1" + "+1".repeat(50) + "-51+bed");
